@@ -774,7 +774,6 @@ public final class TurningMarket {
         int ringCount;
         int stallCount;
         int buyerCount;
-        int stuckCount;
         final Ring[] rings = new Ring[MOST_RINGS];
         final Stall[] stalls = new Stall[MOST_STALLS];
         final Buyer[] buyers = new Buyer[MOST_BUYERS];
@@ -798,7 +797,6 @@ public final class TurningMarket {
             ringCount = 0;
             stallCount = 0;
             buyerCount = 0;
-            stuckCount = 0;
         }
 
         void take(Market market) {
@@ -808,7 +806,6 @@ public final class TurningMarket {
             ringCount = market.ringCount;
             stallCount = market.stallCount;
             buyerCount = market.buyerCount;
-            stuckCount = market.stuckCount;
             for (int r = 0; r < ringCount; r++) {
                 rings[r].take(market.rings[r]);
             }
@@ -888,6 +885,7 @@ public final class TurningMarket {
         private int upTo;
         private int sort;
         private int value;
+        private int stucksTold;
 
         void add(int number) {
             for (int shift = 24; shift >= 0 && length < MOST_BYTES; shift -= 8) {
@@ -901,6 +899,7 @@ public final class TurningMarket {
             fault = 0;
             faultPlace = NONE;
             upTo = 0;
+            stucksTold = 0;
             into.clear();
             next();
             for (int n = 0; n < MOST_BYTES && fault == 0 && sort != END; n++) {
@@ -1044,7 +1043,7 @@ public final class TurningMarket {
         }
 
         private void readStuck(Market into) {
-            if (isFull(into.stuckCount, MOST_STUCK)) {
+            if (isFull(stucksTold, MOST_STUCK)) {
                 return;
             }
             next();
@@ -1059,7 +1058,7 @@ public final class TurningMarket {
             for (int m = first; m <= last; m++) {
                 into.rings[r].stuck |= 1L << m;
             }
-            into.stuckCount++;
+            stucksTold++;
         }
 
         /** Only the first fault counts: what is read behind it may be anything. */
