@@ -12,6 +12,7 @@ public final class ReadTest {
         tooMany();
         whatAFaultLeaves();
         oneBehindAnother();
+        tapesCut();
         DUE.finish();
     }
 
@@ -222,6 +223,29 @@ public final class ReadTest {
         }
         DUE.due("no market: least(0)", x.least(0), -2);
         DUE.due("no market: round(0, 0)", x.round(0, 0), -2);
+    }
+
+    /** What was on the tape behind its end does not count. */
+    private static void tapesCut() {
+        cut("marketers places 4 minutes 6;", 6, 1, 6);
+        cut("market places 4 minutes 61;", 25, 1, 25);
+        cut("market places 4 minutes 6    ;", 26, 1, 26);
+        cut("market places 4 minutes 6;;", 26, 0, -1);
+        String full = HEAD + " ".repeat(2000 - HEAD.length());
+        good(full, 1);
+        bad(full.substring(0, 1999) + "x", 1, 1999);
+        bad(full.substring(0, 1999) + "7", 1, 1999);
+        bad(full.substring(0, 1982) + "ring turns 60 east", 1, 2000);
+        good(full.substring(0, 1981) + "ring turns 60 east;", 2);
+    }
+
+    private static void cut(String text, int n, int fault, int place) {
+        TurningMarket x = new TurningMarket();
+        Due.feed(x, text);
+        DUE.due("end(" + n + ")", x.end(n), n);
+        DUE.due("market() of <" + text + "> cut at " + n, x.market(), fault == 0 ? 1 : -4);
+        DUE.due("fault(0)", x.fault(0), fault);
+        DUE.due("fault(1)", x.fault(1), place);
     }
 
     private static void good(String text, int lines) {
