@@ -480,15 +480,12 @@ public final class TurningMarket {
         if (!now.isTold()) {
             return NO_SUCH;
         }
-        int period = 1;
-        for (int r = 0; r < now.ringCount; r++) {
-            int own = now.rings[r].turns * now.places;
-            int step = period;
-            while (own > 0 && period <= MOST_PERIOD && period % own != 0) {
-                period += step;
+        for (int n = 1; n <= MOST_PERIOD; n++) {
+            if (areRingsRound(n)) {
+                return n;
             }
         }
-        return period <= MOST_PERIOD ? period : NONE;
+        return NONE;
     }
 
     public int drawn(int seed, int odds) {
@@ -628,6 +625,16 @@ public final class TurningMarket {
             }
         }
         return there;
+    }
+
+    private boolean areRingsRound(int minutes) {
+        for (int r = 0; r < now.ringCount; r++) {
+            int once = now.rings[r].turns * now.places;
+            if (once > 0 && minutes % once != 0) {
+                return false;
+            }
+        }
+        return true;
     }
 
     private Hour toldHour() {
@@ -1128,9 +1135,9 @@ public final class TurningMarket {
             upTo = from;
             if (from >= length) {
                 sort = END;
-            } else if (isLetter(from)) {
+            } else if (isLetter(bytes[from])) {
                 takeWord();
-            } else if (isDigit(from)) {
+            } else if (isDigit(bytes[from])) {
                 takeNumber();
             } else {
                 sort = bytes[from] == ';' ? SIGN : OTHER;
@@ -1140,7 +1147,7 @@ public final class TurningMarket {
 
         private void takeWord() {
             sort = WORD;
-            while (isLetter(upTo)) {
+            while (upTo < length && isLetter(bytes[upTo])) {
                 upTo++;
             }
         }
@@ -1148,18 +1155,18 @@ public final class TurningMarket {
         private void takeNumber() {
             sort = NUMBER;
             value = 0;
-            while (isDigit(upTo)) {
+            while (upTo < length && isDigit(bytes[upTo])) {
                 value = Math.min(TOO_HIGH, 10 * value + bytes[upTo] - '0');
                 upTo++;
             }
         }
 
-        private boolean isLetter(int i) {
-            return i < length && bytes[i] >= 'a' && bytes[i] <= 'z';
+        private static boolean isLetter(int sign) {
+            return sign >= 'a' && sign <= 'z';
         }
 
-        private boolean isDigit(int i) {
-            return i < length && bytes[i] >= '0' && bytes[i] <= '9';
+        private static boolean isDigit(int sign) {
+            return sign >= '0' && sign <= '9';
         }
     }
 
@@ -1476,7 +1483,7 @@ public final class TurningMarket {
             Arrays.fill(taken, 0L);
             System.arraycopy(buyer.pieces, 0, lacks, 0, MOST_WANTS);
             int wanted = buyer.wanted();
-            while (pieces < wanted && findNext() && nextPrice <= coins - spent) {
+            for (int n = 0; n < wanted && findNext() && nextPrice <= coins - spent; n++) {
                 takeNext();
             }
         }
