@@ -421,7 +421,8 @@ public final class TurningMarket {
         if (!row.isThere) {
             return EMPTY;
         }
-        if (row.length < now.stallCount) {
+        // the row is held against the stalls one by one: a number behind them would be of none
+        if (row.length != now.stallCount) {
             return BEYOND;
         }
         if (!row.isWithin(0, MOST_PIECES)) {
@@ -977,17 +978,14 @@ public final class TurningMarket {
             word("price");
             stall.price = number(0, MOST_PRICE);
             readKind(stall);
+            stall.step = stall.kind == FIXED ? 0 : number(1, MOST_STEP);
             into.stallCount++;
         }
 
         private void readKind(Stall stall) {
-            stall.kind = FIXED;
-            stall.step = 0;
             if (isWord("fixed")) {
-                next();
-                return;
-            }
-            if (isWord("falls")) {
+                stall.kind = FIXED;
+            } else if (isWord("falls")) {
                 stall.kind = FALLS;
             } else if (isWord("learns")) {
                 stall.kind = LEARNS;
@@ -995,7 +993,6 @@ public final class TurningMarket {
                 refuse(CANNOT_STAND);
             }
             next();
-            stall.step = number(1, MOST_STEP);
         }
 
         private void readBuyer(Market into) {

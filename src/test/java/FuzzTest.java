@@ -1,3 +1,4 @@
+import java.util.Arrays;
 import java.util.Random;
 
 /** Random markets: every call's answer is that of the model. */
@@ -109,6 +110,7 @@ public final class FuzzTest {
         checkAlone(x, m, seed);
         checkPears(x, m, seed);
         checkTrials(x, m, seed);
+        checkRows(x, m, seed);
         // the trials leave the hour as it was
         checkSales(x, m, seed);
         checkStalls(x, m, seed);
@@ -266,6 +268,35 @@ public final class FuzzTest {
                 times += m.drawn(seed + i, odds).doneIn[b] >= 0 ? 1 : 0;
             }
             due(seed, "chance", x.chance(seed, n, odds, b), times);
+        }
+    }
+
+    private static void checkRows(TurningMarket x, Model m, int seed) {
+        Random random = new Random(seed);
+        for (int n = 0; n < 12; n++) {
+            int length = n % 3 == 0 ? random.nextInt(12) : m.stalls.size();
+            long[] left = new long[length];
+            for (int i = 0; i < length; i++) {
+                int should = i < m.stalls.size() ? m.has[i][m.minutes - 1] : 0;
+                left[i] = random.nextInt(30) == 0 ? random.nextInt(40) - 10 : Math.max(0, should - random.nextInt(3));
+            }
+            Due.fill(x, 2, random.nextInt(4), left);
+            for (int what = 0; what < 3; what++) {
+                due(seed, "theft(2, " + what + ") of " + Arrays.toString(left), x.theft(2, what), m.theft(left, what));
+            }
+        }
+        for (int n = 0; n < 6; n++) {
+            long[] paid = new long[random.nextInt(61)];
+            int right = 0;
+            boolean isSo = true;
+            for (int i = 0; i < paid.length; i++) {
+                boolean isSale = i < m.sales.size();
+                paid[i] = isSale && random.nextInt(20) != 0 ? m.sales.get(i)[3] : random.nextInt(100);
+                isSo &= isSale && paid[i] == m.sales.get(i)[3];
+                right += isSo ? 1 : 0;
+            }
+            Due.fill(x, 3, random.nextInt(4), paid);
+            due(seed, "judge(3) of " + Arrays.toString(paid), x.judge(3), right);
         }
     }
 }

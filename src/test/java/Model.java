@@ -521,4 +521,26 @@ final class Model {
         }
         return wisest;
     }
+
+    // ---- rows
+
+    /** What is missing at each stall, held against the row from its end on. */
+    int theft(long[] left, int what) {
+        if (left.length != stalls.size()) {
+            return -7;
+        }
+        if (Arrays.stream(left).anyMatch(n -> n < 0 || n > 20)) {
+            return -2;
+        }
+        int[] answers = {0, -1, 0};
+        for (int s = left.length - 1; s >= 0; s--) {
+            long should = has[s][minutes - 1];
+            if (left[s] < should) {
+                answers[0]++;
+                answers[1] = s;
+                answers[2] += (int) (should - left[s]);
+            }
+        }
+        return answers[what];
+    }
 }

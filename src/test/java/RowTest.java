@@ -8,6 +8,7 @@ public final class RowTest {
         pastes();
         pastesRefused();
         thefts();
+        theftsOfOtherLengths();
         judges();
         DUE.finish();
     }
@@ -135,10 +136,6 @@ public final class RowTest {
         // stall 0 sells to buyer 0 in minutes 0 and 4, so it has 1; stall 2 sells to nobody behind it
         DUE.due("has(0, 5)", x.has(0, 5), 2);
         theft("moved", x, 0, 2, 0, 3);
-        Due.fill(x, 1, 0, 2, 1);
-        theft("not as many", x, 1, -7, -7, -7);
-        Due.fill(x, 1, 0, 2, 21);
-        theft("not as many, and above 20", x, 1, -7, -7, -7);
         Due.fill(x, 1, 0, 2, 1, 21);
         theft("above 20", x, 1, -2, -2, -2);
         Due.fill(x, 1, 0, -1, 1, 0);
@@ -160,6 +157,42 @@ public final class RowTest {
         theft("nothing", bare, 0, -6, -6, -6);
         bare.row(0, 3, 0);
         theft("no stalls", bare, 0, 0, -1, 0);
+    }
+
+    /** A number of each stall: neither fewer than stalls nor more. */
+    private static void theftsOfOtherLengths() {
+        TurningMarket x = Due.loaded(Markets.SMALL);
+        for (int n = 0; n <= 60; n++) {
+            x.row(0, n % 4, n);
+            int[] due = n == 3 ? new int[] {2, 0, 3} : new int[] {-7, -7, -7};
+            theft(n + " numbers", x, 0, due[0], due[1], due[2]);
+        }
+        Due.fill(x, 0, 0, 2, 1);
+        theft("one too few", x, 0, -7, -7, -7);
+        Due.fill(x, 0, 0, 2, 1, 0, 0);
+        theft("one too many", x, 0, -7, -7, -7);
+        Due.fill(x, 0, 0, 2, 21);
+        theft("too few, and one above 20", x, 0, -7, -7, -7);
+        Due.fill(x, 0, 0, 2, 1, 0, 21);
+        theft("too many, and one above 20", x, 0, -7, -7, -7);
+        Due.fill(x, 0, 0, 2, -1, 0, 0);
+        theft("too many, and one below 0", x, 0, -7, -7, -7);
+        DUE.due("too many, and no such what", x.theft(0, 3), -2);
+        TurningMarket bare = Due.loaded(Markets.BARE);
+        bare.row(0, 0, 1);
+        theft("no stalls, one number", bare, 0, -7, -7, -7);
+        TurningMarket none = new TurningMarket();
+        none.row(0, 0, 0);
+        theft("no market, as many numbers as stalls", none, 0, -2, -2, -2);
+        // as many as the market has now, not as one had that it stands in place of
+        TurningMarket other = Due.loaded(Markets.SMALL);
+        other.keep(0);
+        Due.fill(other, 0, 0, 2, 1, 0);
+        theft("three stalls", other, 0, 0, -1, 0);
+        Due.load(other, Markets.still(2, "stall 0 at 0 sells 0 pieces 2 price 1 fixed;"));
+        theft("one stall, three numbers", other, 0, -7, -7, -7);
+        other.back(0);
+        theft("three stalls again", other, 0, 0, -1, 0);
     }
 
     private static void judges() {
