@@ -34,6 +34,11 @@ final class Due {
         x.end(before + text.length());
     }
 
+    /** How many calls it takes to load a text. */
+    static int callsOfLoad(String text) {
+        return (text.length() + 19) / 20 + 3;
+    }
+
     static int load(TurningMarket x, String text) {
         feed(x, text);
         return x.market();
