@@ -17,6 +17,7 @@ import java.util.regex.Pattern;
 /** What of ../shared/LANGUAGE.md can be seen from the class and from its text. */
 public final class LanguageTest {
     private static final Due DUE = new Due("LanguageTest");
+    private static final Path DOCUMENT = Path.of("../shared/DOC.md");
     private static final String FILE = "src/main/java/TurningMarket.java";
 
     /** The document's face: each method's name and its parameters, i for int, l for long. */
@@ -40,7 +41,7 @@ public final class LanguageTest {
         DUE.due(what, holds ? 1 : 0, 1);
     }
 
-    private static void face() {
+    private static void face() throws IOException {
         Class<?> market = TurningMarket.class;
         must("public and final", Modifier.isPublic(market.getModifiers()) && Modifier.isFinal(market.getModifiers()));
         Set<String> names = new TreeSet<>();
@@ -54,6 +55,8 @@ public final class LanguageTest {
             }
         }
         must("the face is the document's", found.equals(new TreeSet<>(Arrays.asList(FACE.split(" ")))));
+        Set<String> told = toldFace();
+        must("the face is that of " + DOCUMENT, told.isEmpty() || found.equals(told));
         for (Class<?> type : classes()) {
             for (Method m : type.getDeclaredMethods()) {
                 must("no private method bears a public name: " + m, Modifier.isPublic(m.getModifiers()) || !names.contains(m.getName()));
@@ -65,6 +68,21 @@ public final class LanguageTest {
         for (Field f : market.getDeclaredFields()) {
             must("private or NONE: " + f, Modifier.isPrivate(f.getModifiers()) || f.getName().equals("NONE"));
         }
+    }
+
+    /** The methods that the document's block of code tells; none, if the document is not here. */
+    private static Set<String> toldFace() throws IOException {
+        Set<String> told = new TreeSet<>();
+        if (!Files.isReadable(DOCUMENT)) {
+            return told;
+        }
+        String block = Files.readString(DOCUMENT, StandardCharsets.UTF_8).split("```java")[1].split("```")[0];
+        Matcher method = Pattern.compile("public int (\\w+)\\(([^)]*)\\);").matcher(block);
+        while (method.find()) {
+            told.add(method.group(1) + ":" + method.group(2).replaceAll("int \\w+", "i").replaceAll("long \\w+", "l").replace(", ", ""));
+        }
+        must("methods in " + DOCUMENT, told.size() > 0);
+        return told;
     }
 
     private static String described(Method m) {
